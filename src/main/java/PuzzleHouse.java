@@ -242,14 +242,6 @@ public final class PuzzleHouse {
                 scan.tellDigit(1);
                 scan.tellDigit(2);
                 break;
-            case RULE:
-                scan.kind();
-                scan.ruleCells();
-                break;
-            case EACH:
-                scan.side();
-                scan.kind();
-                break;
             case GIVE: case PUT:
                 scan.tellNumber(0, 3);
                 scan.tellSymbol(1);
@@ -279,6 +271,22 @@ public final class PuzzleHouse {
                 scan.tellName();
                 scan.tellNumber(1, 3);
                 scan.tellDigits();
+                break;
+            default:
+                readLongArguments(word);
+                break;
+        }
+    }
+
+    private void readLongArguments(int word) {
+        switch (word) {
+            case RULE:
+                scan.kind();
+                scan.ruleCells();
+                break;
+            case EACH:
+                scan.side();
+                scan.kind();
                 break;
             case LOAD:
                 scan.take(' ');
@@ -392,7 +400,7 @@ public final class PuzzleHouse {
                 break;
             case VARY:
                 spare.copy(puzzle);
-                Form.vary(spare, scan.told[0], puzzle);
+                form.vary(spare, scan.told[0], puzzle);
                 play.begin();
                 out.put(OK);
                 break;
@@ -1251,7 +1259,7 @@ public final class PuzzleHouse {
          * no way meets both. Common cells, as bits, are those still to be settled: without any of them what
          * one rule allows does not depend on the other.
          */
-        long jointly(int r, int q, long standing, int common) {
+        private long jointly(int r, int q, long standing, int common) {
             int ofR = supports(r, standing);
             int ofQ = supports(q, standing);
             long found = 0;
@@ -2044,6 +2052,7 @@ public final class PuzzleHouse {
         private int trials = 0;
         private final int[] trial = new int[MOST_RULES];
         private final int[] becomes = new int[4];
+        private final int[] cells = new int[4];
 
         private static int maps(Puzzle puzzle) {
             return puzzle.width == puzzle.height ? 8 : 4;
@@ -2063,24 +2072,24 @@ public final class PuzzleHouse {
             return many;
         }
 
-        /** Tells in a row what each symbol becomes by the renaming of that number. */
-        private static void rename(int number, int symbols, int[] row) {
-            int used = 0;
+        /** Finds what each symbol becomes by the renaming of that number. */
+        private void rename(int number, int many) {
+            int free = 15;
             int left = number;
             int ways = 1;
-            for (int i = 2; i < symbols; i++) {
+            for (int i = 2; i < many; i++) {
                 ways *= i;
             }
-            for (int i = 0; i < symbols && i < row.length; i++) {
+            for (int i = 0; i < many && i < becomes.length; i++) {
                 int skip = left / Math.max(ways, 1);
                 left -= skip * ways;
-                ways /= Math.max(symbols - 1 - i, 1);
-                int free = ~used & 15;
+                ways /= Math.max(many - 1 - i, 1);
+                int rest = free;
                 for (int j = 0; j < skip && j < 4; j++) {
-                    free &= free - 1;
+                    rest &= rest - 1;
                 }
-                row[i] = lowest(free) & 3;
-                used |= 1 << row[i];
+                becomes[i] = lowest(rest) & 3;
+                free &= ~(1 << becomes[i]);
             }
         }
 
@@ -2095,13 +2104,11 @@ public final class PuzzleHouse {
             return (map & 4) != 0 ? y + puzzle.width * x : x + puzzle.width * y;
         }
 
-        static void vary(Puzzle from, int number, Puzzle to) {
+        void vary(Puzzle from, int number, Puzzle to) {
             int maps = maps(from);
             int map = number % maps;
-            int[] row = new int[4];
-            rename(number / maps % renamings(from), from.symbols, row);
+            rename(number / maps % renamings(from), from.symbols);
             to.renew(from.width, from.height, from.symbols);
-            int[] cells = new int[4];
             for (int r = 0; r < from.rules; r++) {
                 for (int i = 0; i < 4; i++) {
                     cells[i] = mapped(from, map, from.cell[4 * r + i]);
@@ -2110,7 +2117,7 @@ public final class PuzzleHouse {
             }
             for (int c = 0; c < from.cells; c++) {
                 if (from.given[c] >= 0) {
-                    to.give(mapped(from, map, c), row[from.given[c] & 3]);
+                    to.give(mapped(from, map, c), becomes[from.given[c] & 3]);
                 }
             }
         }
@@ -2129,7 +2136,7 @@ public final class PuzzleHouse {
                     givens = NO_FORM;
                 }
                 for (int i = 0; i < renamings && order <= 0; i++) {
-                    rename(i, symbols, becomes);
+                    rename(i, symbols);
                     givens = Math.min(givens, givensOf(puzzle, map));
                 }
             }
@@ -2225,7 +2232,6 @@ public final class PuzzleHouse {
         /** Makes a puzzle the one whose text is the form. */
         void restore(Puzzle to) {
             to.renew(width, height, symbols);
-            int[] cells = new int[4];
             for (int i = 0; i < rules; i++) {
                 int digits = keys[i] >> 16 & 255;
                 int number = (digits & 15) == 0 ? digits >> 4 : (digits >> 4) * 10 + (digits & 15) - 1;
