@@ -815,6 +815,11 @@ final class Model {
     }
 
     String teach() {
+        String b = lesson();
+        return b.length() > 3000 ? "long" : b.length() == 0 ? "." : b;
+    }
+
+    String lesson() {
         StringBuilder b = new StringBuilder(givenLines(grid));
         boolean[][] may = firstStanding(grid);
         while (!broken(may)) {
@@ -838,7 +843,7 @@ final class Model {
         } else if (single(may)) {
             b.append(leafLine(may)).append("u;");
         }
-        return b.length() > 3000 ? "long" : b.length() == 0 ? "." : b.toString();
+        return b.toString();
     }
 
     // ---- the checker ----

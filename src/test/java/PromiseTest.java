@@ -2,11 +2,7 @@
  * For each promise of the document calls whose answers were worked out by hand; but the puzzles whose proof or lesson
  * has just 3,000 bytes, and the one whose lesson is too long, were found by a search, and the Model agrees on them.
  */
-public final class PromiseTest {
-    private static int right = 0;
-    private static int wrong = 0;
-    private static String part = "";
-
+public final class PromiseTest extends Checks {
     private PromiseTest() {
     }
 
@@ -32,46 +28,13 @@ public final class PromiseTest {
         promise6();
         promise7();
         promise8();
-        System.out.println(right + " passed, " + wrong + " failed");
-        System.exit(wrong == 0 ? 0 : 1);
-    }
-
-    private static void due(String what, Object got, Object want) {
-        if (got.equals(want)) {
-            right++;
-        } else {
-            wrong++;
-            System.out.println(part + ": " + what + " answered " + got + ", due is " + want);
-        }
-    }
-
-    /** Requests and the answers that are due, in turn. */
-    private static void run(PuzzleHouse house, String... rows) {
-        for (int i = 0; i + 1 < rows.length; i += 2) {
-            due(rows[i], Talk.say(house, rows[i]), rows[i + 1]);
-        }
-    }
-
-    private static PuzzleHouse loaded(String text) {
-        PuzzleHouse house = new PuzzleHouse();
-        run(house, "load " + text, "ok");
-        return house;
-    }
-
-    private static void on(String text, String... rows) {
-        run(loaded(text), rows);
-    }
-
-    private static void states(PuzzleHouse house, int... want) {
-        for (int i = 0; i < want.length; i++) {
-            due("state(" + i + ")", house.state(i), want[i]);
-        }
+        end();
     }
 
     // ---- Promise 1 ----
 
     private static void promise1() {
-        part = "promise 1";
+        part("promise 1");
         PuzzleHouse house = new PuzzleHouse();
         states(house, 0, 0, 1, 1, 0, 0, 0, 0, 0, 0);
         due("answer(0)", house.answer(0), -1);
@@ -88,7 +51,7 @@ public final class PromiseTest {
     // ---- Promise 2 ----
 
     private static void promise2() {
-        part = "promise 2";
+        part("promise 2");
         PuzzleHouse house = new PuzzleHouse();
         due("feed", house.feed(0x74657874, -1, 0, 0x80ff00ff, 1), 20);
         for (int i = 2; i <= 160; i++) {
@@ -111,7 +74,7 @@ public final class PromiseTest {
     // ---- Promise 3 ----
 
     private static void promise3Grammar() {
-        part = "promise 3, grammar";
+        part("promise 3, grammar");
         PuzzleHouse house = new PuzzleHouse();
         due("ask(-1)", house.ask(-1), -1);
         due("ask(1)", house.ask(1), -1);
@@ -141,7 +104,7 @@ public final class PromiseTest {
     }
 
     private static void promise3Puzzle() {
-        part = "promise 3, the puzzle";
+        part("promise 3, the puzzle");
         PuzzleHouse house = new PuzzleHouse();
         run(house, "new 0 1 1", "no size", "new 4 1 1", "no size", "new 1 0 1", "no size", "new 1 4 1", "no size", "new 1 1 0", "no size",
             "new 1 1 5", "no size", "text", "new 1 1 1", "new 3 2 4", "ok", "rule unlike 6", "no cell", "rule unlike 0 1 0", "no cell",
@@ -166,7 +129,7 @@ public final class PromiseTest {
 
     /** Each kind of rule, by the answers of a row of two to four cells. */
     private static void promise3Kinds() {
-        part = "promise 3, kinds of rules";
+        part("promise 3, kinds of rules");
         on("new 2 1 3;rule unlike 0 1", "answers 9", "01 02 10 12 20 21 all");
         on("new 2 1 3;rule alike 1 0", "answers 9", "00 11 22 all");
         on("new 2 1 3;rule rise 1 0", "answers 9", "10 20 21 all");
@@ -188,7 +151,7 @@ public final class PromiseTest {
     }
 
     private static void promise3Answers() {
-        part = "promise 3, answers";
+        part("promise 3, answers");
         on("new 3 3 3;each row unlike;each column unlike", "many", "12", "answers 0", "more", "answers 1", "012120201 more",
             "answers 2", "012120201 012201120 more", "pick 0", "012120201", "pick 11", "210102021", "pick 12", "none", "answers 101", "no number",
             "give 0 2", "ok", "give 1 1", "ok", "answers 2", "210021102 210102021 all", "answers 1", "210021102 more", "pick 1", "210102021",
@@ -199,7 +162,7 @@ public final class PromiseTest {
     }
 
     private static void promise3Givens() {
-        part = "promise 3, givens";
+        part("promise 3, givens");
         on("new 2 1 2;rule unlike 0 1;give 0 0;give 1 0", "clash", "clash 0 1", "text", "new 2 1 2;rule unlike 0 1;give 0 0;give 1 0",
             "give 1 1", "ok", "clash", "none");
         on("new 3 1 2;rule unlike 0 1;rule unlike 1 2;give 0 0;give 1 0;give 2 0", "clash", "clash 1 2");
@@ -217,7 +180,7 @@ public final class PromiseTest {
     }
 
     private static void promise3Proofs() {
-        part = "promise 3, proofs";
+        part("promise 3, proofs");
         on("new 2 1 2;rule rise 0 1", "prove", "r0 -0.1;r0 -1.0 +0.1;b -0.0 -1.1;u;", "teach", "r0 -0.1;r0 -1.0 +0.1;b -0.0 -1.1;u;",
             "grade", "2 1 0");
         on("new 1 1 2", "prove", "b -0.0;u -0.0;b -0.1;u -0.1;u;", "grade", "0 3 1", "teach", ".");
@@ -268,7 +231,7 @@ public final class PromiseTest {
     }
 
     private static void promise3Steps() {
-        part = "promise 3, steps";
+        part("promise 3, steps");
         on("new 2 1 2;rule rise 0 1", "hint", "hint 0 0 0", "step", "one 0 1 0", "solve", "solved 2 0 0", "put 0 1", "ok", "hint", "can't",
             "step", "one 0 1 0", "solve", "broken 1 0 0", "put 0 0", "ok", "hint", "hint 1 1 0", "step", "one 1 0 0", "solve", "solved 1 0 0",
             "put 1 1", "ok", "hint", "none", "step", "solved", "solve", "solved 0 0 0", "person 1", "ok", "step", "one 0 1 0");
@@ -282,7 +245,7 @@ public final class PromiseTest {
     }
 
     private static void promise3Variants() {
-        part = "promise 3, variants";
+        part("promise 3, variants");
         on("new 2 1 2;rule unlike 1 0;give 1 1", "form", "new 2 1 2;rule unlike 0 1;give 0 0", "text", "new 2 1 2;rule unlike 1 0;give 1 1");
         on("new 2 1 2;rule rise 1 0;give 1 1", "form", "new 2 1 2;rule rise 0 1;give 0 1");
         // ";" is above a blank, so that of whole texts the one with the longer rule there is less.
@@ -306,7 +269,7 @@ public final class PromiseTest {
     }
 
     private static void promise3Covers() {
-        part = "promise 3, covers";
+        part("promise 3, covers");
         on("new 2 2 2;rule unlike 0 1;rule unlike 2 3;rule unlike 0 2;rule unlike 1 3", "cover 5", "0+1 2+3 all", "cover 2", "0+1 2+3 all",
             "cover 1", "0+1 more", "cover 0", "more", "cover 101", "no number", "cover 100", "0+1 2+3 all", "barred", "open");
         on("new 1 1 1", "cover 0", "all", "cover 9", "all", "barred", "barred 2 1");
@@ -320,7 +283,7 @@ public final class PromiseTest {
     }
 
     private static void promise3Play() {
-        part = "promise 3, play";
+        part("promise 3, play");
         PuzzleHouse house = loaded("new 2 2 3;rule unlike 0 1;give 0 2");
         run(house, "person 3", "no person", "person 9", "no person", "state", "2...", "put 4 9", "no cell", "put 0 9", "given", "put 0 -", "given",
             "put 1 3", "no symbol", "put 1 -", "same", "put 1 0", "ok", "put 1 0", "same", "put 1 1", "ok", "state", "21..", "undo", "ok",
@@ -344,7 +307,7 @@ public final class PromiseTest {
 
     /** What begins play anew, and what does not. */
     private static void promise3PlayAnew() {
-        part = "promise 3, play anew";
+        part("promise 3, play anew");
         String[] anew = {"new 1 1 2", "rule unlike 1", "each row unlike", "give 1 0", "give 1 -", "drop", "load new 2 1 2", "open a", "make 1 0", "vary 0", "least"};
         String[] not = {"new 0 1 1", "rule unlike 9", "rule sum 100 1", "each row sum 100", "give 9 0", "give 1 3", "load new 1 1 1;give 3 3", "open b", "make 1 2", "text",
             "many", "form", "keep b", "mend", "import book 0/14257", "person 1", "contest", "prove", "solve", "cover 3"};
@@ -368,7 +331,7 @@ public final class PromiseTest {
     }
 
     private static void promise3Contest() {
-        part = "promise 3, the contest";
+        part("promise 3, the contest");
         PuzzleHouse house = loaded("new 2 1 2;rule unlike 0 1");
         run(house, "set a 5", "no name", "keep a", "ok", "set a 5", "ok", "set a 6", "there", "give 0 1", "ok", "keep a", "ok", "keep b", "ok", "set b 2", "ok",
             "submit 3 z 1 0", "no person", "submit 0 z 1 0", "no item", "submit 0 a 1 0", "no filling", "submit 0 a 1 012", "no filling",
@@ -392,7 +355,7 @@ public final class PromiseTest {
     }
 
     private static void promise3Book() {
-        part = "promise 3, the book";
+        part("promise 3, the book");
         PuzzleHouse house = new PuzzleHouse();
         run(house, "list", ".", "open a", "no name", "remove a", "no name", "keep ab", "ok", "list", "ab .");
         bytes(house, 0, 2);
@@ -466,7 +429,7 @@ public final class PromiseTest {
     }
 
     private static void promise3Import() {
-        part = "promise 3, import";
+        part("promise 3, import");
         PuzzleHouse house = new PuzzleHouse();
         run(house, "export", "book 0/14257", "import book 0/14257", "ok", "import book 0/14258", "no check", "import book 1/14257", "no count",
             "import book 2/a new 1 1 1/26275", "no count", "import book 2/a new 1 1 1;give 3 0;give 0 9/b new 0 1 1/2307", "no cell",
@@ -482,18 +445,10 @@ public final class PromiseTest {
         run(house, "import " + many + check(many.toString()), "no room", "list", "a b xa xb xc xd xe xf xg xh xi xj xk xl xm .");
     }
 
-    private static int check(String text) {
-        int check = 7;
-        for (int i = 0; i < text.length(); i++) {
-            check = (check * 31 + text.charAt(i)) % 65521;
-        }
-        return check;
-    }
-
     // ---- Promises 4 to 8 ----
 
     private static void promise4() {
-        part = "promise 4";
+        part("promise 4");
         PuzzleHouse house = new PuzzleHouse();
         run(house, "text", "new 1 1 1");
         due("answer(0)", house.answer(0), (int) 'n');
@@ -509,7 +464,7 @@ public final class PromiseTest {
     }
 
     private static void promise5() {
-        part = "promise 5";
+        part("promise 5");
         PuzzleHouse house = loaded("new 3 3 3;each row unlike;each column unlike;give 0 0");
         Talk.say(house, "prove");
         Talk.feed(house, "text");
@@ -531,7 +486,7 @@ public final class PromiseTest {
     }
 
     private static void promise6() {
-        part = "promise 6";
+        part("promise 6");
         PuzzleHouse house = loaded("new 3 2 4;each pair unlike;rule unlike 0;give 0 1;give 5 0");
         run(house, "keep a", "ok", "keep b", "ok", "set a 3", "ok", "person 2", "ok", "put 1 0", "ok", "put 1 2", "ok", "undo", "ok");
         house.feed(0, 0, 0, 0, 0);
@@ -547,7 +502,7 @@ public final class PromiseTest {
     }
 
     private static void promise7() {
-        part = "promise 7";
+        part("promise 7");
         PuzzleHouse house = new PuzzleHouse();
         int[][] none = {{-1, 0}, {32, 0}, {0, -1}, {0, 32}, {Integer.MAX_VALUE, 0}, {0, Integer.MIN_VALUE}, {-1, 32}, {1, 32}};
         for (int[] at : none) {
@@ -559,7 +514,7 @@ public final class PromiseTest {
     }
 
     private static void promise8() {
-        part = "promise 8";
+        part("promise 8");
         PuzzleHouse house = new PuzzleHouse();
         int[][] none = {{-1, 0, 1}, {32, 0, 1}, {0, -1, 1}, {0, 32, 1}, {0, 0, 0}, {0, 0, 256}, {0, 0, -1}, {0, 0, Integer.MIN_VALUE}};
         for (int[] at : none) {
@@ -594,7 +549,7 @@ public final class PromiseTest {
 
     /** A byte is made another one: the book is torn; then it is made the same again. */
     private static void torn(PuzzleHouse house, int page, int i, int from, int to, String what) {
-        part = "promise 8, torn by its " + what;
+        part("promise 8, torn by its " + what);
         due("byteAt", house.byteAt(page, i), from);
         house.poke(page, i, from ^ to);
         run(house, "mend", "torn", "list", "shut");
@@ -623,7 +578,7 @@ public final class PromiseTest {
     }
 
     private static void chains(PuzzleHouse house) {
-        part = "promise 8, chains";
+        part("promise 8, chains");
         root(house, 1, 3, 29);
         run(house, "mend", "ok", "list", "z .");
         // All pages are in the chain: none is free.
