@@ -1013,7 +1013,7 @@ public final class PuzzleHouse {
             }
             for (int c = 0; c < cells; c++) {
                 for (int by = 0; by < 2; by++) {
-                    int count = lineFrom(side, c % width, c / width, by == 0);
+                    int count = lineFrom(side, across(c), down(c), by == 0);
                     for (int i = 0; i < count; i++) {
                         line[i] = c + (by == 0 ? i : width * i);
                     }
@@ -1021,6 +1021,14 @@ public final class PuzzleHouse {
                 }
             }
             return "";
+        }
+
+        private int across(int c) {
+            return c % Math.max(width, 1);
+        }
+
+        private int down(int c) {
+            return c / Math.max(width, 1);
         }
 
         /** How many cells a row, column or pair has that begins here and goes across or down; 0 when none does. */
@@ -1194,7 +1202,7 @@ public final class PuzzleHouse {
                 for (int j = 0; j < size[r] && i < size[r]; j++) {
                     int a = cell[4 * r + i];
                     int b = cell[4 * r + j];
-                    int away = Math.abs(a % width - b % width) + Math.abs(a / width - b / width);
+                    int away = Math.abs(across(a) - across(b)) + Math.abs(down(a) - down(b));
                     line[i] |= away == 1 ? 1 << j : 0;
                 }
             }
@@ -2097,17 +2105,19 @@ public final class PuzzleHouse {
             if (cell >= puzzle.cells) {
                 return cell;
             }
-            int x = cell % puzzle.width;
-            int y = cell / puzzle.width;
-            x = (map & 1) != 0 ? puzzle.width - 1 - x : x;
+            int width = Math.max(puzzle.width, 1);
+            int x = cell % width;
+            int y = cell / width;
+            x = (map & 1) != 0 ? width - 1 - x : x;
             y = (map & 2) != 0 ? puzzle.height - 1 - y : y;
-            return (map & 4) != 0 ? y + puzzle.width * x : x + puzzle.width * y;
+            return (map & 4) != 0 ? y + width * x : x + width * y;
         }
 
         void vary(Puzzle from, int number, Puzzle to) {
-            int maps = maps(from);
+            int maps = Math.max(maps(from), 1);
+            int renamings = Math.max(renamings(from), 1);
             int map = number % maps;
-            rename(number / maps % renamings(from), from.symbols);
+            rename(number / maps % renamings, from.symbols);
             to.renew(from.width, from.height, from.symbols);
             for (int r = 0; r < from.rules; r++) {
                 for (int i = 0; i < 4; i++) {
@@ -2681,6 +2691,11 @@ public final class PuzzleHouse {
             return pages[root() + 1 + 2 * entry];
         }
 
+        /** Where an entry's chain begins, or the last page for one that can't be. */
+        private int placeOf(int entry) {
+            return PAGE * Math.min(pages[root() + 1 + 2 * entry], PAGES - 1);
+        }
+
         private int pagesOf(int entry) {
             return pages[root() + 2 + 2 * entry];
         }
@@ -2715,7 +2730,7 @@ public final class PuzzleHouse {
         /** The first entry of a name, or -1. */
         int entryOf(char[] source, int from, int length) {
             for (int entry = 0; entry < entries(); entry++) {
-                int at = PAGE * chainOf(entry);
+                int at = placeOf(entry);
                 int alike = 0;
                 while (alike < length && pages[at + 1 + alike] == source[from + alike]) {
                     alike++;
@@ -2728,7 +2743,7 @@ public final class PuzzleHouse {
         }
 
         void writeName(int entry, Out out) {
-            int at = PAGE * chainOf(entry);
+            int at = placeOf(entry);
             for (int i = 1; i <= pages[at] && i <= 8; i++) {
                 out.put(pages[at + i]);
             }

@@ -26,6 +26,10 @@ public final class BoundaryCallsTest extends Boundary {
         sentence(1, "one of whom is PRESENT (0 at first)");
         run(house, "person 1", "ok", "state", ".");
         due("state(8)", new PuzzleHouse().state(8), 0);
+        house = new PuzzleHouse();
+        for (int p = 0; p < 3; p++) {
+            run(house, "person " + p, "ok", "undo", "no step", "redo 0", "no step", "marks 0", ".", "put 0 -", "same", "put 0 0", "ok", "undo", "ok", "state", ".", "undo", "no step", "redo 0", "ok", "state", "0");
+        }
         sentence(1, "THE BOOK has 32 PAGES of 32 bytes, 0 at first, but that page 0 begins with 1.");
         house = new PuzzleHouse();
         bytes(house, 0, 1);

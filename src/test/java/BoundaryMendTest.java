@@ -273,6 +273,10 @@ public final class BoundaryMendTest extends Boundary {
         bytes(house, 4, 1, 'b', 9, 0, 'n', 'e', 'w', ' ', '1', ' ', '1', ' ', '1');
         due("page 0 behind THE TURN stays", house.byteAt(0, 1), 254);
         due("the page behind stays", house.byteAt(5, 0), 255);
+        // What stands behind the entries of the root page is none of them.
+        root(house, 2, 1, 3, 1, 4, 1, 3, 1);
+        run(house, "mend", "ok", "list", "a .", "find", "a .", "export", "book 1/a new 1 1 1/1871", "open b", "no name", "set b 1", "no name", "remove b", "no name", "keep b", "ok", "list", "a b .");
+        due("the chain of b", house.byteAt(1, 3), 4);
         sentence(8, "FREE are pages from 3 on of no entry's chain.");
         // A chain of many pages keeps them from being free, whatever stands in them.
         root(house, 2, 1, 3, 28);

@@ -53,6 +53,7 @@ public final class BoundaryPlayTest extends Boundary {
         run(house, "undo", "ok", "put 8 0", "same", "undo", "ok", "put 8 3", "same", "undo", "ok", "put 8 -", "same");
         due("state(4)", house.state(4), 3);
         on("new 1 1 1", "put 0 1", "no symbol", "put 0 0", "ok", "state", "0");
+        on("new 2 1 2;give 0 0", "put 0 0", "given", "put 0 1", "given", "put 0 -", "given", "mark 0 0", "given", "mark 0 1", "given", "state", "0.");
     }
 
     private static void room() {
@@ -118,6 +119,8 @@ public final class BoundaryPlayTest extends Boundary {
         on("new 1 1 2;rule seen 0 0", "wrong", "not one");
         on("new 1 1 1", "wrong", "0", "put 0 0", "ok", "wrong", "0");
         on("new 1 1 4;rule sum 3 0", "wrong", "0", "put 0 2", "ok", "wrong", "1", "put 0 3", "ok", "wrong", "0", "put 0 -", "ok", "wrong", "0");
+        on("new 2 1 2;rule alike 0 1;give 0 1", "put 1 0", "ok", "wrong", "1", "put 1 1", "ok", "wrong", "0");
+        on("new 2 1 2;rule unlike 0 1;give 1 1", "put 0 0", "ok", "wrong", "0", "put 0 1", "ok", "wrong", "1");
         PuzzleHouse house = loaded("new 3 3 2;rule sum 0 0 1 2 3;rule sum 0 4 5 6 7;rule sum 1 8");
         for (int c = 0; c < 9; c++) {
             run(house, "put " + c + " " + (c == 8 ? 0 : 1), "ok", "wrong", "" + (c + 1));
@@ -170,6 +173,13 @@ public final class BoundaryPlayTest extends Boundary {
         sentence(3, "set N K: \"shut\", \"no name\" when the book has none such, \"there\" when an item has that name, \"no room\" with 6 items");
         PuzzleHouse house = loaded("new 1 1 2;give 0 1");
         run(house, "set a 0", "no name");
+        for (char c = 'a'; c < 'g'; c++) {
+            run(house, "keep abcdefg" + c, "ok", "set abcdefg" + c + " " + (c - 'a'), "ok");
+        }
+        for (char c = 'a'; c < 'g'; c++) {
+            run(house, "set abcdefg" + c + " 1", "there", "submit 0 abcdefg" + c + " 0 1", "right", "submit 0 abcdefg" + c + " 0 1", "over", "remove abcdefg" + c, "ok");
+        }
+        run(house, "table", "0 15 0;1 0 0;2 0 0;", "contest", "ok");
         for (char c = 'a'; c < 'h'; c++) {
             run(house, "keep " + c, "ok");
         }
@@ -201,6 +211,7 @@ public final class BoundaryPlayTest extends Boundary {
             "submit 3 a 0 0", "no person", "table", "2 5 999;0 0 0;1 0 0;");
         sentence(3, "\"right\", at T, when it is an answer of the item's puzzle, else \"wrong\".");
         run(house, "submit 1 a 0 300030002", "wrong", "submit 1 a 0 300020003", "wrong", "submit 1 a 0 000030000", "right", "table", "2 5 999;1 3 40;0 0 0;");
+        on("new 1 1 2;give 0 0", "keep a", "ok", "set a 1", "ok", "submit 0 a 0 1", "wrong", "submit 0 a 0 0", "right", "submit 0 a 0 0", "over", "submit 0 a 0 1", "over", "table", "1 0 0;2 0 0;0 0 20;");
         on("new 1 1 1;rule seen 0 0", "keep a", "ok", "set a 1", "ok", "submit 0 a 1 0", "wrong", "submit 0 a 1 0", "wrong", "table", "0 0 0;1 0 0;2 0 0;");
         on("new 1 1 1", "keep a", "ok", "set a 1", "ok", "submit 0 a 1 1", "no filling", "submit 0 a 1 00", "no filling", "submit 0 a 1 0", "right", "table", "0 1 1;1 0 0;2 0 0;");
     }

@@ -203,6 +203,8 @@ public final class BoundaryPuzzleTest extends Boundary {
         // 0, 1, 2, 5 are a row with a bend: what hangs together are one to four that follow each other, or none.
         on("new 3 2 2;rule joined 5 0 2 1;give 3 0;give 4 0", "many", "11");
         on("new 3 2 2;rule joined 0 1 2 5;give 3 1;give 4 1", "many", "11");
+        on("new 3 2 2;rule alike 3;rule sum 0 4 3;rule joined 1 5 0 2", "many", "11");
+        on("new 3 2 2" + ";rule sum 0 3 4".repeat(11) + ";rule joined 2 0 5 1", "many", "11");
         // A ring of four: all but the two that stand across.
         on("new 2 2 2;rule joined 0 3 1 2", "many", "14");
         on("new 3 3 2;rule joined 0 2 6 8;give 1 1;give 3 1;give 4 1;give 5 1;give 7 1", "many", "5");
@@ -239,6 +241,10 @@ public final class BoundaryPuzzleTest extends Boundary {
             "new 2 1 3;rule rise 0 1;rule unlike 0 1;give 0 0;give 1 1", "load new 1 1 1" + ";rule unlike 0".repeat(12), "ok");
         due("state(0)", house.state(0), 12);
         run(house, "load " + longestText(), "ok", "text", longestText(), "many", "0");
+        // Nothing is left of the rules of the puzzle ahead of it, which were looked at.
+        run(house, "load new 2 2 4;rule alike 0 1 2 3;rule rise 0 1", "ok", "many", "0", "load new 2 2 4;rule sum 0 0 1 2 3", "ok", "answers 9", "0000 all", "cover 9", "0 all",
+            "load new 2 2 4;rule alike 3", "ok", "many", "256", "cover 9", "all", "load new 2 2 4;rule alike 3;rule alike 0 1 2", "ok", "many", "16", "cover 9", "0+1 all",
+            "load new 1 1 4;rule sum 3 0", "ok", "answers 9", "3 all", "load new 1 1 4;rule seen 1 0;give 0 0", "ok", "answers 9", "0 all", "load new 1 1 4", "ok", "many", "4");
     }
 
     private static void answers() {
@@ -263,6 +269,12 @@ public final class BoundaryPuzzleTest extends Boundary {
         sentence(3, "many: how many answers there are. pick K: answer K; \"none\" when there is none such.");
         on("new 3 3 4", "many", "262144", "pick 0", "000000000", "pick 262143", "333333333", "pick 262144", "none", "pick 1", "000000001", "pick 65536", "100000000");
         on("new 3 3 1", "many", "1", "pick 0", "000000000", "pick 1", "none");
+        on("new 2 1 2;give 0 1", "many", "2", "pick 0", "10", "pick 1", "11", "pick 2", "none");
+        on("new 2 1 4;give 1 3", "many", "4", "pick 0", "03", "pick 3", "33", "pick 4", "none");
+        // Rules that hang together from the last one on, and some that do not.
+        on("new 3 1 2;rule unlike 1 2;rule unlike 0 1", "many", "2", "pick 1", "101", "pick 2", "none");
+        on("new 3 3 2;rule unlike 7 8;rule unlike 6 7;rule unlike 5 6;rule unlike 4 5;rule unlike 3 4;rule unlike 2 3;rule unlike 1 2;rule unlike 0 1", "many", "2", "pick 1", "101010101");
+        on("new 3 3 2;rule unlike 8 0;rule unlike 7 1;rule unlike 6 2;rule unlike 5 3", "many", "32", "pick 31", "111110000", "pick 32", "none");
         on("new 1 1 4;rule seen 0 0", "many", "0", "pick 0", "none");
         on("new 3 3 4;rule rise 8 7;rule rise 6 5", "many", "36864", "pick 36863", "333333232", "pick 36864", "none");
     }
@@ -320,6 +332,10 @@ public final class BoundaryPuzzleTest extends Boundary {
                 text.append(";give ").append(c).append(" ").append(answer >> 2 * (8 - c) & 3);
             }
             on("new 3 3 4", "make " + seed + " 0", "made 9", "text", text.toString(), "make " + seed + " 1", "made 9", "text", text.toString());
+        }
+        sentence(3, "(a draw below 1 is a draw, too)");
+        for (int seed = 0; seed < 20; seed++) {
+            on("new 2 1 2;rule rise 0 1;give 0 1", "make " + seed + " 0", "made 0", "text", "new 2 1 2;rule rise 0 1", "make " + seed + " 1", "made 0");
         }
         sentence(3, "for i from the last place to place 1: a draw below i + 1: the cells at places i and that one are exchanged");
         for (int seed = 0; seed <= 999; seed += seed < 20 ? 1 : 89) {

@@ -31,6 +31,10 @@ public final class BoundaryReasonsTest extends Boundary {
         on("new 3 1 2;rule alike 0 1;rule sum 0 1;rule sum 1 2", "prove", "r1 -1.1;r0 -0.1 +1.1;r2 -2.0;b -0.0 -1.0 -2.1;u;", "grade", "3 1 0");
         // Of a rule's cells in its order, of the symbols rising.
         on("new 2 1 2;rule rise 1 0", "prove", "r0 -1.1;r0 -0.0 +1.1;b -0.1 -1.0;u;");
+        // 28 symbols, the most that can be taken: all but one of each of nine cells, and the last one of cell 8.
+        on("new 3 3 4;rule sum 0 0 1 2 3;rule sum 0 4 5 6 7;rule sum 3 8;rule rise 8 0", "grade", "28 1 0", "solve", "broken 28 0 0");
+        String most = Talk.say(loaded("new 3 3 4;rule sum 0 0 1 2 3;rule sum 0 4 5 6 7;rule sum 3 8;rule rise 8 0"), "prove");
+        due("the end of its proof", most.endsWith(";r2 -8.0;r2 -8.1;r2 -8.2;r3 -8.3 +0.1 +0.2 +0.3;u;"), true);
         on("new 1 1 4;rule sum 2 0", "prove", "r0 -0.0;r0 -0.1;r0 -0.3;b -0.2;u;");
         on("new 1 1 1", "prove", "b -0.0;u;", "grade", "0 1 0");
     }
@@ -62,6 +66,18 @@ public final class BoundaryReasonsTest extends Boundary {
         on("new 3 2 2;give 5 1", "grade", "0 63 5");
         on("new 3 3 4;rule seen 2 8", "grade", "4 1 0");
         on("new 3 3 4;rule sum 0 0 1 2 3;rule sum 0 4 5 6 7;rule sum 3 8", "grade", "27 1 0");
+        // Nine choices, the most there can be: no cell is greater than the one ahead, so that a 0 settles all behind it.
+        StringBuilder falling = new StringBuilder("new 3 3 2");
+        for (int c = 0; c < 8; c++) {
+            falling.append(";rule seen 1 ").append(c).append(" ").append(c + 1);
+        }
+        on(falling.toString(), "grade", "0 19 9", "many", "10");
+        PuzzleHouse house = loaded(falling.toString());
+        Talk.say(house, "prove");
+        due("checkAnswer of nine choices", Talk.checkAnswer(house), "proof 10");
+        // What the tree ahead of it had does not matter to the next one.
+        run(house, "new 3 3 4", "ok", "grade", "long", "prove", "long", "new 1 1 2", "ok", "grade", "0 3 1", "prove", "b -0.0;u -0.0;b -0.1;u -0.1;u;", "new 1 1 1", "ok", "grade", "0 1 0",
+            "new 3 3 4", "ok", "prove", "long", "teach", ".", "new 1 1 1", "ok", "teach", "b -0.0;u;");
     }
 
     private static Model model(String text) {
@@ -96,6 +112,10 @@ public final class BoundaryReasonsTest extends Boundary {
         String over = "new 3 3 4;rule unlike 0 5;rule unlike 6 8;rule unlike 5 4 8 7;rule apart 2 5 1 3;rule apart 2 3 8 0;rule unlike 2 0;rule sum 4 5 8 2;rule apart 1 4 2 3";
         due("bytes of the Model's lesson", model(over).lesson().length(), 3001);
         on(over, "teach", "long");
+        // After one of its steps this one has just 3,000 bytes, but it goes on.
+        String within = "new 3 3 4;rule sum 6 5 2 7;rule apart 1 6 4;rule apart 2 1 0 8 4;rule unlike 2 8;rule unlike 1 0 6 7;rule apart 1 0 7;rule apart 2 7 4 3";
+        due("the 3,000th byte of the Model's lesson", model(within).lesson().charAt(2999), ';');
+        on(within, "teach", "long");
         on("new 1 1 2", "teach", ".");
         on("new 3 3 4;each row unlike", "teach", ".");
         on("new 1 1 2;give 0 1", "teach", "g0 +0.1;b -0.1;u;");
@@ -120,6 +140,8 @@ public final class BoundaryReasonsTest extends Boundary {
         on("new 1 1 1;rule seen 1 0", "hint", "none");
         on("new 2 1 3;rule rise 0 1", "hint", "none");
         on("new 2 1 2;rule rise 1 0", "hint", "hint 1 0 0");
+        on("new 3 1 2;rule unlike 0 1;rule sum 1 2", "hint", "hint 2 1 1");
+        on("new 3 3 2" + ";rule unlike 0 1".repeat(11) + ";rule seen 2 7 8", "hint", "hint 7 0 11");
         on("new 2 1 2;rule unlike 0 1;give 0 0;give 1 1", "hint", "none");
         on("new 1 1 4;rule sum 3 0", "hint", "hint 0 3 0", "put 0 3", "ok", "hint", "none", "put 0 2", "ok", "hint", "can't");
         // Two are left of four: no hint.
@@ -188,7 +210,8 @@ public final class BoundaryReasonsTest extends Boundary {
         sentence(5, "g c: cell c is given, and + c . s, s its given, is one of its literals.");
         on("new 3 3 4;give 8 3", "check g8 +8.3;", "open", "check g8;", "line 0", "check g8 -8.3;", "line 0", "check g8 +8.2;", "line 0", "check g8 +8.2 +8.3;", "open",
             "check g8 +0.0 -1.1 +8.3;", "open", "check g7 +8.3;", "line 0", "check g7 +7.3;", "line 0", "check g9 +8.3;", "line 0", "check g999 +8.3;", "line 0",
-            "check g0 +8.3;", "line 0");
+            "check g0 +8.3;", "line 0", "check g1 +0.3;", "line 0", "check g8 +7.3;", "line 0");
+        on("new 2 1 2;give 0 0", "check g0 +0.0;", "open", "check g0 -0.0;", "line 0", "check g1 +1.0;", "line 0");
         sentence(5, "r n: there is a rule n, and in each way to fill its cells (with any symbols) that meets it one of the literals of its cells at least is so.");
         on("new 2 1 2", "check r0;", "line 0", "check r0 +0.0;", "line 0");
         on("new 3 1 2;rule rise 0 1", "check r0 +0.0;", "open", "check r1 +0.0;", "line 0", "check r12 +0.0;", "line 0", "check r999 +0.0;", "line 0", "check r0;", "line 0",
@@ -196,7 +219,7 @@ public final class BoundaryReasonsTest extends Boundary {
         on("new 2 1 3;rule rise 0 1", "check r0 +0.0;", "line 0", "check r0 +0.0 +0.1;", "open", "check r0 -0.2;", "open", "check r0 -0.0 +1.1 +1.2;", "open",
             "check r0 -0.0 +1.1;", "line 0", "check r0 -0.0 -0.1;", "open");
         // A rule that no way meets: any literals, or none.
-        on("new 1 1 1;rule seen 0 0", "check r0;", "open", "check r0 +0.0;", "open", "check r0;u;", "proof 0", "check r0 +0.0;u;", "line 1");
+        on("new 1 1 1;rule seen 0 0", "check r0;", "open", "check r0 +0.0;", "open", "check r0;u;", "proof 0", "check r0 +0.0;u;", "line 1", "check r0;", "open");
         on("new 3 3 4" + ";rule sum 3 8".repeat(12), "check r11 +8.3;", "open", "check r12 +8.3;", "line 0");
         // With any symbols: what is given does not matter.
         on("new 2 1 2;rule unlike 0 1;give 0 0", "check r0 +1.1;", "line 0", "check r0 +1.1 +0.1;", "open");
@@ -227,6 +250,9 @@ public final class BoundaryReasonsTest extends Boundary {
         // One open literal more than one: nothing is made so, even when both are of one cell.
         on("new 2 1 3;rule sum 0 0 1", "check r0 +0.0 +0.1;u;", "line 1", "check r0 +0.0 +0.1;u +0.0;", "line 1", "check r0 +0.0 +0.1;u +0.0 +0.1;", "open",
             "check r0 +0.0;r0 -0.1;u -0.2;", "open", "check r0 +0.0;u -0.1;", "open", "check r0 -0.1;r0 -0.2;u +0.0;", "open", "check r0 -0.1;u +0.0;", "line 1");
+        // Two symbols left, of which the greatest one is not the only one.
+        on("new 2 1 4;rule rise 0 1", "check r0 -0.3;u +0.1 +0.2;", "line 1", "check r0 -0.3;u +0.0 +0.2;", "line 1", "check r0 -0.3;u +0.0 +0.1;", "line 1", "check r0 -0.3;u +0.0 +0.1 +0.2;", "open",
+            "check r0 -0.3;u +0.0;", "line 1", "check r0 -0.3;u -0.3;", "open");
         sentence(5, "Then, as long as something changes, and no cell may have nothing: of the lines ahead, of which no literal IS SO");
         // From cell 0 on each leads to the next one, in an order in which the two ends come together in the fifth round.
         String chain = "new 3 3 2;rule alike 0 1;rule alike 1 2;rule alike 2 3;rule alike 3 4;rule alike 4 5;rule alike 5 6;rule alike 6 7;rule alike 7 8;rule sum 1 0";
@@ -247,6 +273,7 @@ public final class BoundaryReasonsTest extends Boundary {
             "check b -0.1 -1.0;", "line 0", "check b -0.0 -1.0;", "line 0");
         on("new 2 1 2;rule rise 0 1;give 0 1", "check b -0.0 -1.1;", "line 0");
         on("new 2 1 2;give 0 1", "check b -0.1 -1.1;", "open", "check b -0.0 -1.1;", "line 0");
+        on("new 2 1 2;give 0 0", "check b -0.1 -1.1;", "line 0", "check b -0.0 -1.1;", "open");
         on("new 1 1 1", "check b -0.0;", "open");
         on("new 3 3 1", "check b -0.0 -1.0 -2.0 -3.0 -4.0 -5.0 -6.0 -7.0 -8.0;u;", "proof 1", "check b -0.0 -1.0 -2.0 -3.0 -4.0 -5.0 -6.0 -7.0;u;", "line 0");
     }

@@ -74,6 +74,8 @@ public final class BoundaryVariantsTest extends Boundary {
         PuzzleHouse house = loaded("new 2 1 2;rule unlike 1 0;rule unlike 0 1");
         run(house, "put 0 1", "ok", "vary 0", "ok", "state", "..", "undo", "no step", "text", "new 2 1 2;rule unlike 1 0;rule unlike 0 1", "vary 1", "ok", "text",
             "new 2 1 2;rule unlike 0 1;rule unlike 1 0");
+        // However the puzzle came about.
+        run(house, "new 3 1 3", "ok", "rule rise 0 1", "rule 0", "give 0 2", "ok", "vary 1", "ok", "text", "new 3 1 3;rule rise 2 1;give 2 2", "drop", "ok", "vary 5", "ok", "text", "new 3 1 3;give 0 1");
         house = loaded("new 3 3 2" + ";rule rise 0 1 2 5".repeat(12) + ";give 0 1");
         run(house, "vary 3", "ok", "text", "new 3 3 2" + ";rule rise 8 7 6 3".repeat(12) + ";give 8 1");
     }
@@ -93,6 +95,8 @@ public final class BoundaryVariantsTest extends Boundary {
             on("new 2 2 2;rule " + kind + " 3 1 0 2", "form", "new 2 2 2;rule " + kind + " 0 1 2 3");
         }
         on("new 2 2 2;rule count 2 0 3 2 1", "form", "new 2 2 2;rule count 2 0 1 2 3");
+        on("new 3 1 2;rule count 2 1 2", "form", "new 3 1 2;rule count 2 1 0");
+        on("new 3 1 2;rule count 2 1 2 0", "form", "new 3 1 2;rule count 2 1 0 2");
         on("new 2 2 2;rule count 2 3 2 1 0;rule count 2 3 0 1 2", "form", "new 2 2 2;rule count 2 0 1 2 3");
         for (String kind : new String[] {"rise", "apart 2", "seen 2"}) {
             on("new 2 2 2;rule " + kind + " 0 3 2 1", "form", "new 2 2 2;rule " + kind + " 0 3 1 2");
@@ -109,11 +113,18 @@ public final class BoundaryVariantsTest extends Boundary {
         on("new 2 1 2;rule unlike 0 1;rule unlike 0", "form", "new 2 1 2;rule unlike 0 1;rule unlike 1");
         // The rule at the end of a text, with and without a given behind it.
         on("new 2 1 2;rule rise 1;give 0 1", "form", "new 2 1 2;rule rise 0;give 1 1");
+        // Two across and three down: x and y are not exchanged.
+        on("new 2 3 2;rule rise 3", "form", "new 2 3 2;rule rise 2");
+        on("new 3 2 2;rule rise 4", "form", "new 3 2 2;rule rise 1");
+        on("new 2 3 2;rule sum 1 0 1;give 0 0", "form", "new 2 3 2;rule sum 1 0 1;give 0 0");
+        on("new 2 1 2;rule sum 1 0 1;give 0 0", "form", "new 2 1 2;rule sum 1 0 1;give 0 0");
+        on("new 2 1 2;rule sum 1 0 1;give 1 0", "form", "new 2 1 2;rule sum 1 0 1;give 0 0");
         on("new 2 2 3;give 3 2;give 1 0", "form", "new 2 2 3;give 0 0;give 1 1");
         on("new 2 2 3;give 3 2;give 0 2", "form", "new 2 2 3;give 0 0;give 3 0");
         PuzzleHouse house = loaded("new 3 3 2;each pair unlike;give 8 1");
         String text = Talk.say(house, "text");
         run(house, "form", text.substring(0, text.length() - 9) + ";give 0 0", "text", text);
+        smallForms();
         sentence(3, "Puzzles with one form are THE SAME.");
         house = loaded("new 3 3 3;rule count 2 0 1 2;rule unlike 4 8;give 3 2;give 7 0");
         String form = Talk.say(house, "form");
@@ -123,6 +134,22 @@ public final class BoundaryVariantsTest extends Boundary {
         due("a form is its own form", Talk.say(loaded(form), "form"), form);
     }
 
+    /** All pairs of rules of the three cells in a row, held against the Model, which tries all variants as texts. */
+    private static void smallForms() {
+        String[] cells = {" 0", " 1", " 2", " 0 1", " 0 2", " 1 0", " 1 2", " 2 0", " 2 1", " 0 1 2", " 0 2 1", " 1 0 2", " 1 2 0", " 2 0 1", " 2 1 0"};
+        PuzzleHouse house = new PuzzleHouse();
+        for (String kind : new String[] {"rise", "unlike", "count 2", "seen 10"}) {
+            for (String first : cells) {
+                for (String second : cells) {
+                    String text = "new 3 1 2;rule " + kind + first + ";rule " + kind + second + ";give 2 1";
+                    Model.Grid grid = new Model.Grid();
+                    Model.load(grid, text);
+                    run(house, "load " + text, "ok", "form", Model.form(grid));
+                }
+            }
+        }
+    }
+
     private static void finds() {
         sentence(3, "find: \"shut\" when the book is not open; the names of its entries whose puzzles are the same as this one, in their order, each followed by a blank, then \".\".");
         PuzzleHouse house = loaded("new 2 3 3;rule rise 0 1;give 5 1");
@@ -130,6 +157,15 @@ public final class BoundaryVariantsTest extends Boundary {
             "find", ".", "load new 2 3 4;rule rise 0 1;give 5 1", "ok", "find", ".", "load new 2 3 3;rule rise 1 0;rule rise 1 0;give 4 1", "ok", "find", "b a .");
         due("poke", house.poke(31, 0, 1), true);
         run(house, "find", "shut", "mend", "ok", "find", "b a .");
+        house = new PuzzleHouse();
+        String[] others = {"new 1 1 2", "new 2 1 2", "new 1 2 2", "new 2 2 2", "new 2 2 3", "new 1 1 2;rule alike 0", "new 1 1 2;rule unlike 0", "new 1 1 2;rule alike 0;rule unlike 0",
+            "new 1 1 2;rule sum 1 0", "new 1 1 2;rule sum 10 0", "new 1 1 2;rule sum 1 0;give 0 0", "new 1 1 2;rule sum 1 0;give 0 1"};
+        for (int i = 0; i < others.length; i++) {
+            run(house, "load " + others[i], "ok", "keep " + (char) ('a' + i), "ok");
+        }
+        for (int i = 0; i < others.length; i++) {
+            run(house, "load " + others[i], "ok", "find", (char) ('a' + i) + " .");
+        }
     }
 
     private static void covers() {

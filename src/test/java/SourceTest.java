@@ -1,15 +1,21 @@
 import java.io.IOException;
+import java.io.PrintWriter;
+import java.io.StringWriter;
 import java.lang.reflect.Constructor;
 import java.lang.reflect.Field;
 import java.lang.reflect.Method;
 import java.lang.reflect.Modifier;
 import java.nio.file.Files;
 import java.nio.file.Path;
+import java.util.ArrayList;
 import java.util.Arrays;
 import java.util.List;
+import java.util.Map;
+import java.util.TreeMap;
 import java.util.TreeSet;
 import java.util.regex.Matcher;
 import java.util.regex.Pattern;
+import java.util.spi.ToolProvider;
 
 /** What can be seen of the rules of LANGUAGE.md in the source and in the class. */
 public final class SourceTest {
@@ -26,6 +32,7 @@ public final class SourceTest {
         words(code);
         face();
         shape(code);
+        calls();
         System.out.println(right + " passed, " + wrong + " failed");
         System.exit(wrong == 0 ? 0 : 1);
     }
@@ -107,6 +114,62 @@ public final class SourceTest {
                 due(end - i <= 65, "at most some sixty lines: " + lines[i].trim());
             }
             due(!lines[i].matches(".*\\bwhile \\(true\\).*|.*for \\(;;\\).*"), "each loop has an end: " + lines[i].trim());
+        }
+    }
+
+    /** Of each method the class's own methods that it calls, as the class file has them; "makes" stands for a new object. */
+    private static Map<String, TreeSet<String>> callsOfMethods() {
+        StringWriter text = new StringWriter();
+        PrintWriter to = new PrintWriter(text);
+        List<String> args = new ArrayList<>(List.of("-p", "-c", "-cp", System.getProperty("java.class.path"), "PuzzleHouse"));
+        for (Class<?> c : PuzzleHouse.class.getDeclaredClasses()) {
+            args.add(c.getName());
+        }
+        ToolProvider.findFirst("javap").ifPresent(javap -> javap.run(to, to, args.toArray(new String[0])));
+        Map<String, TreeSet<String>> all = new TreeMap<>();
+        String owner = "";
+        String method = "";
+        for (String line : text.toString().split("\\R")) {
+            Matcher head = Pattern.compile("^(?:public |final |static )*class ([\\w$]+)").matcher(line);
+            Matcher member = Pattern.compile("^  [\\w\\[\\]$. ]*?([\\w$]+)\\(.*\\);$").matcher(line);
+            Matcher call = Pattern.compile("// Method (?:([\\w$/]+)\\.)?\"?([\\w$<>]+)\"?:").matcher(line);
+            if (head.find()) {
+                owner = head.group(1);
+            } else if (member.find()) {
+                method = owner + "." + (member.group(1).equals(owner) ? "<init>" : member.group(1));
+                all.put(method, new TreeSet<>());
+            } else if (line.startsWith("  static {}")) {
+                method = owner + ".<clinit>";
+                all.put(method, new TreeSet<>());
+            } else if (call.find() && all.containsKey(method)) {
+                all.get(method).add((call.group(1) == null ? owner : call.group(1)) + "." + call.group(2));
+            } else if (line.matches(" +\\d+: (new|newarray|anewarray|multianewarray) .*") && all.containsKey(method)) {
+                all.get(method).add("makes");
+            }
+        }
+        return all;
+    }
+
+    private static int deepest(Map<String, TreeSet<String>> all, String method, TreeSet<String> open) {
+        int below = 0;
+        open.add(method);
+        for (String called : all.get(method)) {
+            if (all.containsKey(called) && !called.equals(method)) {
+                due(!open.contains(called), "methods call themselves, but not one another: " + method + " and " + called);
+                below = open.contains(called) ? below : Math.max(below, deepest(all, called, open));
+            }
+        }
+        open.remove(method);
+        return 1 + below;
+    }
+
+    private static void calls() {
+        Map<String, TreeSet<String>> all = callsOfMethods();
+        due(all.containsKey("PuzzleHouse.ask") && all.get("PuzzleHouse.ask").contains("PuzzleHouse.respond"), "the class file was read");
+        for (String method : all.keySet()) {
+            int deep = deepest(all, method, new TreeSet<>());
+            due(deep <= 8, "calls go at most eight deep: " + method + " " + deep);
+            due(method.endsWith("init>") || !all.get(method).contains("makes"), "nothing is made but in constructors: " + method);
         }
     }
 }
