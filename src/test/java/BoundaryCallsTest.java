@@ -171,6 +171,20 @@ public final class BoundaryCallsTest extends Boundary {
         due("state(5)", house.state(5), 2);
         due("poke", house.poke(31, 31, 1), true);
         due("state(5)", house.state(5), -1);
+        sentence(6, "6 bytes on the tape, 7 bytes of the latest answer, 8 who is present, 9 items");
+        PuzzleHouse fresh = new PuzzleHouse();
+        for (int i = 0; i <= 160; i++) {
+            due("state(6)", fresh.state(6), 20 * i);
+            due("feed", fresh.feed(0, 0, 0, 0, 0), i < 160 ? 20 * i + 20 : -1);
+        }
+        due("state(6)", fresh.state(6), 3200);
+        due("state(7)", fresh.state(7), 0);
+        due("ask(3200)", fresh.ask(3200), 5);
+        due("state(6)", fresh.state(6), 0);
+        due("state(7)", fresh.state(7), 5);
+        run(fresh, "keep a", "ok", "set a 1", "ok", "person 1", "ok");
+        due("state(8)", fresh.state(8), 1);
+        due("state(9)", fresh.state(9), 1);
         sentence(6, "0 rules, 1 givens, 2 cells, 3 symbols");
         for (int w = 1; w <= 3; w++) {
             for (int h = 1; h <= 3; h++) {

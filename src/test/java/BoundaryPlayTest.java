@@ -7,6 +7,7 @@ public final class BoundaryPlayTest extends Boundary {
         persons();
         puts();
         room();
+        entries();
         undos();
         redos();
         marks();
@@ -75,6 +76,13 @@ public final class BoundaryPlayTest extends Boundary {
         // The others have room of their own, and so has who was full once play begins anew.
         run(house, "person 1", "ok", "put 0 0", "ok", "person 0", "ok", "put 0 1", "no room", "give 1 -", "ok", "put 0 1", "ok");
         due("state(4)", house.state(4), 1);
+    }
+
+    private static void entries() {
+        sentence(3, "state: each cell's given, or entry, or \".\" without.");
+        on("new 3 3 4", "state", ".........", "give 8 0", "ok", "state", "........0", "put 0 0", "ok", "put 7 3", "ok", "state", "0......30", "put 0 -", "ok", "state", ".......30");
+        on("new 1 1 1", "state", ".", "give 0 0", "ok", "state", "0");
+        on("new 1 3 2", "state", "...", "put 2 1", "ok", "state", "..1");
     }
 
     private static void undos() {
@@ -188,6 +196,7 @@ public final class BoundaryPlayTest extends Boundary {
             run(house, "set " + c + " 999", "ok", "set " + c + " 0", "there");
         }
         due("state(9)", house.state(9), 6);
+        sentence(3, "THE CONTEST has at most 6 ITEMS, each with a name, a puzzle and points");
         run(house, "set g 1", "no room", "set a 1", "there", "set h 1", "no name", "remove a", "ok", "set a 1", "no name", "set ab 1", "no name", "submit 0 a 0 1", "right");
         due("poke", house.poke(31, 0, 1), true);
         run(house, "set b 1", "shut", "set zz 1", "shut", "submit 0 b 0 1", "right", "table", "0 1998 0;1 0 0;2 0 0;", "mend", "ok", "set g 1", "no room");
@@ -209,6 +218,14 @@ public final class BoundaryPlayTest extends Boundary {
             "submit 2 a 0 0", "no filling", "submit 2 a 0 000040000", "no filling", "submit 2 a 0 000030004", "no filling", "submit 2 a 0 900030000", "no filling",
             "submit 2 a 0 " + "0".repeat(400), "no filling", "submit 2 a 999 300030003", "right", "submit 2 a 0 0", "over", "submit 2 a 0 300030003", "over", "submit 2 b 0 0", "no item",
             "submit 3 a 0 0", "no person", "table", "2 5 999;0 0 0;1 0 0;");
+        sentence(3, "else an item more with that name, the puzzle that the book's entry has now, and K points: \"ok\".");
+        // The book's entry was written over, removed and torn since then.
+        run(house, "submit 0 a 0 0", "no filling", "remove a", "ok", "submit 0 a 0 00003000", "no filling");
+        due("poke", house.poke(1, 0, 255), true);
+        due("poke", house.poke(2, 0, 255), true);
+        run(house, "mend", "torn", "submit 0 a 0 00003000", "no filling", "submit 0 a 0 000030001", "wrong", "contest", "ok", "submit 0 a 0 0", "no item");
+        house = loaded("new 3 3 4;rule alike 0 8;give 4 3");
+        run(house, "keep a", "ok", "set a 5", "ok", "submit 2 a 999 300030003", "right");
         sentence(3, "\"right\", at T, when it is an answer of the item's puzzle, else \"wrong\".");
         run(house, "submit 1 a 0 300030002", "wrong", "submit 1 a 0 300020003", "wrong", "submit 1 a 0 000030000", "right", "table", "2 5 999;1 3 40;0 0 0;");
         on("new 1 1 2;give 0 0", "keep a", "ok", "set a 1", "ok", "submit 0 a 0 1", "wrong", "submit 0 a 0 0", "right", "submit 0 a 0 0", "over", "submit 0 a 0 1", "over", "table", "1 0 0;2 0 0;0 0 20;");

@@ -205,6 +205,10 @@ public final class BoundaryPuzzleTest extends Boundary {
         on("new 3 2 2;rule joined 0 1 2 5;give 3 1;give 4 1", "many", "11");
         on("new 3 2 2;rule alike 3;rule sum 0 4 3;rule joined 1 5 0 2", "many", "11");
         on("new 3 2 2" + ";rule sum 0 3 4".repeat(11) + ";rule joined 2 0 5 1", "many", "11");
+        // What hangs together by one rule tells nothing of the next one.
+        on("new 3 1 2;rule joined 0 1;rule joined 0 2", "many", "6");
+        // Seven ways for each row, less three times seven times three in which 0 and 8 have 1.
+        on("new 3 3 2;each row joined;rule joined 0 8", "many", "280");
         // A ring of four: all but the two that stand across.
         on("new 2 2 2;rule joined 0 3 1 2", "many", "14");
         on("new 3 3 2;rule joined 0 2 6 8;give 1 1;give 3 1;give 4 1;give 5 1;give 7 1", "many", "5");

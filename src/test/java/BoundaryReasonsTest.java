@@ -34,6 +34,7 @@ public final class BoundaryReasonsTest extends Boundary {
         // 28 symbols, the most that can be taken: all but one of each of nine cells, and the last one of cell 8.
         on("new 3 3 4;rule sum 0 0 1 2 3;rule sum 0 4 5 6 7;rule sum 3 8;rule rise 8 0", "grade", "28 1 0", "solve", "broken 28 0 0");
         String most = Talk.say(loaded("new 3 3 4;rule sum 0 0 1 2 3;rule sum 0 4 5 6 7;rule sum 3 8;rule rise 8 0"), "prove");
+        on("new 3 3 4;rule sum 0 0 1 2 3;rule sum 0 4 5 6 7;rule sum 3 8;rule rise 8 0", "teach", most);
         due("the end of its proof", most.endsWith(";r2 -8.0;r2 -8.1;r2 -8.2;r3 -8.3 +0.1 +0.2 +0.3;u;"), true);
         on("new 1 1 4;rule sum 2 0", "prove", "r0 -0.0;r0 -0.1;r0 -0.3;b -0.2;u;");
         on("new 1 1 1", "prove", "b -0.0;u;", "grade", "0 1 0");
@@ -140,6 +141,10 @@ public final class BoundaryReasonsTest extends Boundary {
         on("new 1 1 1;rule seen 1 0", "hint", "none");
         on("new 2 1 3;rule rise 0 1", "hint", "none");
         on("new 2 1 2;rule rise 1 0", "hint", "hint 1 0 0");
+        on("new 2 2 4;rule unlike 0 1 2 3", "hint", "none");
+        on("new 2 2 4;rule unlike 0 1 2 3;rule sum 0 3", "hint", "hint 3 0 1");
+        // A rule that went counts no more.
+        on("new 1 1 2;rule sum 1 0", "hint", "hint 0 1 0", "drop", "ok", "hint", "none", "step", "stuck", "solve", "stuck 0 0 0", "teach", ".", "grade", "0 3 1");
         on("new 3 1 2;rule unlike 0 1;rule sum 1 2", "hint", "hint 2 1 1");
         on("new 3 3 2" + ";rule unlike 0 1".repeat(11) + ";rule seen 2 7 8", "hint", "hint 7 0 11");
         on("new 2 1 2;rule unlike 0 1;give 0 0;give 1 1", "hint", "none");
@@ -156,6 +161,7 @@ public final class BoundaryReasonsTest extends Boundary {
         // In the order of R's cells, then those of Q that are not of R.
         on("new 2 1 3;rule sum 2 1 0;rule unlike 0 1", "step", "two 1 1 0 1");
         on("new 3 2 2;rule unlike 1 0;rule joined 5 0 1", "step", "two 5 1 0 1");
+        on("new 2 1 3;rule sum 2 0 1;rule unlike 0 1", "step", "two 0 1 0 1", "drop", "ok", "step", "stuck", "rule alike 0", "rule 1", "step", "stuck");
         // By R, then Q: rules 0 and 1 have nothing out, nor 0 and 2; 1 and 2 have.
         on("new 3 2 2;rule unlike 3 0;rule unlike 0 1;rule joined 5 0 1", "step", "two 5 1 1 2");
         sentence(3, "TRY: of the cells that may have more than one symbol, by numbers, of these symbols, rising, the first one");

@@ -74,6 +74,14 @@ public final class BoundaryVariantsTest extends Boundary {
         PuzzleHouse house = loaded("new 2 1 2;rule unlike 1 0;rule unlike 0 1");
         run(house, "put 0 1", "ok", "vary 0", "ok", "state", "..", "undo", "no step", "text", "new 2 1 2;rule unlike 1 0;rule unlike 0 1", "vary 1", "ok", "text",
             "new 2 1 2;rule unlike 0 1;rule unlike 1 0");
+        sentence(3, "the puzzle becomes the variant of the map N modulo how many maps there are, and of the renaming (N by how many maps, without rest) modulo how many renamings (not ordered): \"ok\".");
+        // 4 maps and 6 renamings: 24 is 0 again; 23 is map 3 and the last renaming, 3 the last map alone, 4 the next renaming.
+        String six = "new 3 1 3;rule unlike 2 0;rule unlike 1;give 0 0;give 1 1";
+        due("vary 24", varied(six, 24), six);
+        due("vary 23", varied(six, 23), "new 3 1 3;rule unlike 0 2;rule unlike 1;give 1 1;give 2 2");
+        due("vary 3", varied(six, 3), "new 3 1 3;rule unlike 0 2;rule unlike 1;give 1 1;give 2 0");
+        due("vary 4", varied(six, 4), "new 3 1 3;rule unlike 2 0;rule unlike 1;give 0 0;give 1 2");
+        due("vary 984", varied(six, 984), six);
         // However the puzzle came about.
         run(house, "new 3 1 3", "ok", "rule rise 0 1", "rule 0", "give 0 2", "ok", "vary 1", "ok", "text", "new 3 1 3;rule rise 2 1;give 2 2", "drop", "ok", "vary 5", "ok", "text", "new 3 1 3;give 0 1");
         house = loaded("new 3 3 2" + ";rule rise 0 1 2 5".repeat(12) + ";give 0 1");
@@ -114,7 +122,9 @@ public final class BoundaryVariantsTest extends Boundary {
         // The rule at the end of a text, with and without a given behind it.
         on("new 2 1 2;rule rise 1;give 0 1", "form", "new 2 1 2;rule rise 0;give 1 1");
         // Two across and three down: x and y are not exchanged.
+        on("new 2 3 2;rule rise 2", "form", "new 2 3 2;rule rise 2");
         on("new 2 3 2;rule rise 3", "form", "new 2 3 2;rule rise 2");
+        on("new 2 1 2;rule rise 1", "form", "new 2 1 2;rule rise 0");
         on("new 3 2 2;rule rise 4", "form", "new 3 2 2;rule rise 1");
         on("new 2 3 2;rule sum 1 0 1;give 0 0", "form", "new 2 3 2;rule sum 1 0 1;give 0 0");
         on("new 2 1 2;rule sum 1 0 1;give 0 0", "form", "new 2 1 2;rule sum 1 0 1;give 0 0");

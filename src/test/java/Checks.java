@@ -13,8 +13,12 @@ abstract class Checks {
             right++;
         } else {
             wrong++;
-            System.out.println(part + ": " + what + " answered " + got + ", due is " + want);
+            System.out.println((part.isEmpty() ? "" : part + ": ") + what + " answered " + got + ", due is " + want);
         }
+    }
+
+    static void so(boolean is, String what) {
+        due(what, is, true);
     }
 
     static int made() {

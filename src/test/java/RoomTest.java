@@ -1,27 +1,14 @@
 import java.lang.management.ManagementFactory;
 
 /** What a run makes must fit into one room, and no call may throw whatever it is told. */
-public final class RoomTest {
-    private static int right = 0;
-    private static int wrong = 0;
-
+public final class RoomTest extends Checks {
     private RoomTest() {
     }
 
     public static void main(String[] args) {
         room();
         wildCalls();
-        System.out.println(right + " passed, " + wrong + " failed");
-        System.exit(wrong == 0 ? 0 : 1);
-    }
-
-    private static void due(boolean is, String what) {
-        if (is) {
-            right++;
-        } else {
-            wrong++;
-            System.out.println("not so: " + what);
-        }
+        end();
     }
 
     /** A new object and the dearest requests, 500 of them, against bytes made: 7.3 million elements are far more. */
@@ -48,7 +35,7 @@ public final class RoomTest {
             }
             made = bean.getThreadAllocatedBytes(id) - before;
         }
-        due(made < 1_000_000, "a run of 480 requests makes less than a million bytes: " + made);
+        so(made < 1_000_000, "a run of 480 requests makes less than a million bytes: " + made);
     }
 
     /** Calls with all sorts of numbers, far beyond the 512th. */
@@ -75,13 +62,13 @@ public final class RoomTest {
                     break;
             }
         }
-        due(true, "no call threw");
+        so(true, "no call threw");
         PuzzleHouse full = new PuzzleHouse();
         Talk.say(full, "new 1 1 2");
         for (int i = 0; i < 3000; i++) {
             Talk.say(full, "put 0 " + i % 2);
             Talk.say(full, "keep x");
         }
-        due(full.state(4) == 100, "no more than 100 steps back");
+        so(full.state(4) == 100, "no more than 100 steps back");
     }
 }
